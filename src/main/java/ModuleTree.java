@@ -174,9 +174,9 @@ public final class ModuleTree {
     }
 
     /**
-     * The smallest strong module numbered from or above that has all points of a set that is not
-     * empty. Strong modules that share a point lie one within the other, and a set's number is
-     * above those of the sets within it, so the first found is the smallest.
+     * The smallest strong module with all points of part (which is not empty) and a number not
+     * below from. Strong modules that share a point lie one within the other, and a set's number
+     * is above those of the sets within it, so the first found is the smallest.
      */
     private int firstStrong(int part, int from) {
         for (int set = from; set < all; set++) {

@@ -1,3 +1,6 @@
+import java.util.ArrayList;
+import java.util.List;
+
 /**
  * Holds the program against the reference: every graph of up to 5 points with every question, some
  * graphs of 6 to 8 points with every question, and long mixed runs of calls.
@@ -37,37 +40,32 @@ public final class ReferenceTest {
         return time % 3 == 0 ? a & b : time % 3 == 1 ? a | b : a;
     }
 
-    private static ModuleTree build(int n, long edges) {
-        ModuleTree x = new ModuleTree(n);
-        int pair = 0;
+    private static List<int[]> joinedPairs(int n, long edges) {
+        List<int[]> pairs = new ArrayList<>();
+        int bit = 0;
         for (int v = 1; v < n; v++) {
             for (int u = 0; u < v; u++) {
-                if ((edges >> pair++ & 1) == 1) {
-                    x.join(u, v, true);
+                if ((edges >> bit++ & 1) == 1) {
+                    pairs.add(new int[] {u, v});
                 }
             }
         }
-        return x;
+        return pairs;
     }
 
-    private static Reference buildReference(int n, long edges) {
-        Reference r = new Reference(n);
-        int pair = 0;
-        for (int v = 1; v < n; v++) {
-            for (int u = 0; u < v; u++) {
-                if ((edges >> pair++ & 1) == 1) {
-                    r.join(u, v, true);
-                }
-            }
-        }
-        return r;
+    private static ModuleTree build(int n, List<int[]> pairs) {
+        ModuleTree x = new ModuleTree(n);
+        pairs.forEach(pair -> x.join(pair[0], pair[1], true));
+        return x;
     }
 
     /** Each kind of question has a new object, as one object is good for 512 calls. */
     private static void askAll(int n, long edges) {
-        Reference r = buildReference(n, edges);
+        List<int[]> pairs = joinedPairs(n, edges);
+        Reference r = new Reference(n);
+        pairs.forEach(pair -> r.join(pair[0], pair[1], true));
         String name = n + " points, edges " + edges + ": ";
-        ModuleTree forPairs = build(n, edges);
+        ModuleTree forPairs = build(n, pairs);
         for (int u = -1; u <= n; u++) {
             for (int v = -1; v <= n; v++) {
                 String args = "(" + u + ", " + v + ")";
@@ -78,7 +76,7 @@ public final class ReferenceTest {
         CHECKS.due(name + "strong()", forPairs.strong(), r.strong());
         CHECKS.due(name + "modules()", forPairs.modules(), r.modules());
         for (int question = 0; question < 5; question++) {
-            ModuleTree x = build(n, edges);
+            ModuleTree x = build(n, pairs);
             for (int set = -2; set <= (1 << n) + 1; set++) {
                 askSet(name, x, r, question, set);
             }
