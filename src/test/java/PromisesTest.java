@@ -1,7 +1,7 @@
 /** Each promise by hand-worked examples: ordinary inputs, the edges, and wrong inputs. */
 public final class PromisesTest {
-    private static final int LOW = Integer.MIN_VALUE;
-    private static final int HIGH = Integer.MAX_VALUE;
+    private static final int LOW = Numbers.LEAST;
+    private static final int HIGH = Numbers.GREATEST;
     private static final Checks CHECKS = new Checks();
 
     public static void main(String[] args) {
@@ -29,24 +29,6 @@ public final class PromisesTest {
 
     private static void due(String call, boolean got, boolean want) {
         CHECKS.due(call, got, want);
-    }
-
-    private static ModuleTree graph(int points, int... pairs) {
-        ModuleTree x = new ModuleTree(points);
-        for (int i = 0; i < pairs.length; i += 2) {
-            x.join(pairs[i], pairs[i + 1], true);
-        }
-        return x;
-    }
-
-    /** The line 0-1-2-3: the smallest prime graph. */
-    private static ModuleTree line4() {
-        return graph(4, 0, 1, 1, 2, 2, 3);
-    }
-
-    /** The line 0-1-2-3 with the joined pair 4-5 and the point 6 beside it. */
-    private static ModuleTree mixed7() {
-        return graph(7, 0, 1, 1, 2, 2, 3, 4, 5);
     }
 
     private static void newObject() {
@@ -89,7 +71,7 @@ public final class PromisesTest {
         due("join(0, 1, false) again", x.join(0, 1, false), true);
         due("parted again: modules()", x.modules(), 7);
 
-        ModuleTree tight = graph(3, 2, 0, 2, 1, 1, 0);
+        ModuleTree tight = Graphs.graph(3, 2, 0, 2, 1, 1, 0);
         due("joined all: kind(7)", tight.kind(7), ModuleTree.TIGHT);
         due("join(2, 1, false)", tight.join(2, 1, false), true);
         due("parted 2-1: kind(6)", tight.kind(6), ModuleTree.LOOSE);
@@ -98,7 +80,7 @@ public final class PromisesTest {
 
     private static void refusedJoinChangesNothing() {
         int[] wrong = {LOW, -32, -1, 4, 5, 7, 8, 32, 33, HIGH};
-        ModuleTree x = line4();
+        ModuleTree x = Graphs.line4();
         for (int w : wrong) {
             for (int good = 0; good < 4; good++) {
                 due("join(" + w + ", " + good + ", true)", x.join(w, good, true), false);
@@ -133,7 +115,7 @@ public final class PromisesTest {
         due("complement 1: modules()", one.modules(), 1);
         due("complement 1: isModule(3)", one.isModule(3), false);
 
-        ModuleTree mixed = mixed7();
+        ModuleTree mixed = Graphs.mixed7();
         mixed.complement();
         due("complement mixed: kind(127)", mixed.kind(127), ModuleTree.TIGHT);
         due("complement mixed: kind(48)", mixed.kind(48), ModuleTree.LOOSE);
@@ -144,12 +126,12 @@ public final class PromisesTest {
     }
 
     private static void isModule() {
-        ModuleTree x = line4();
+        ModuleTree x = Graphs.line4();
         for (int set = 1; set < 16; set++) {
             boolean want = set == 1 || set == 2 || set == 4 || set == 8 || set == 15;
             due("line isModule(" + set + ")", x.isModule(set), want);
         }
-        ModuleTree y = mixed7();
+        ModuleTree y = Graphs.mixed7();
         due("mixed isModule(15)", y.isModule(15), true);
         due("mixed isModule(112)", y.isModule(112), true);
         due("mixed isModule(80)", y.isModule(80), false);
@@ -163,7 +145,7 @@ public final class PromisesTest {
     }
 
     private static void isStrong() {
-        ModuleTree x = mixed7();
+        ModuleTree x = Graphs.mixed7();
         for (int set : new int[] {1, 2, 4, 8, 16, 32, 64, 15, 48, 127}) {
             due("mixed isStrong(" + set + ")", x.isStrong(set), true);
         }
@@ -180,7 +162,7 @@ public final class PromisesTest {
     }
 
     private static void around() {
-        ModuleTree x = mixed7();
+        ModuleTree x = Graphs.mixed7();
         due("around(0, 3)", x.around(0, 3), 15);
         due("around(3, 0)", x.around(3, 0), 15);
         due("around(4, 5)", x.around(4, 5), 48);
@@ -201,7 +183,7 @@ public final class PromisesTest {
     }
 
     private static void strongAround() {
-        ModuleTree x = mixed7();
+        ModuleTree x = Graphs.mixed7();
         due("strongAround(0, 3)", x.strongAround(0, 3), 15);
         due("strongAround(3, 0)", x.strongAround(3, 0), 15);
         due("strongAround(4, 5)", x.strongAround(4, 5), 48);
@@ -222,39 +204,28 @@ public final class PromisesTest {
         due("one strong()", new ModuleTree(1).strong(), 1);
         due("two strong()", new ModuleTree(2).strong(), 3);
         due("eight strong()", new ModuleTree(8).strong(), 9);
-        due("line strong()", line4().strong(), 5);
-        due("mixed strong()", mixed7().strong(), 10);
-        due("nested strong()", nested8().strong(), 15);
+        due("line strong()", Graphs.line4().strong(), 5);
+        due("mixed strong()", Graphs.mixed7().strong(), 10);
+        due("nested strong()", Graphs.nested8().strong(), 15);
     }
 
     private static void modules() {
         due("one modules()", new ModuleTree(1).modules(), 1);
         due("two modules()", new ModuleTree(2).modules(), 3);
         due("eight modules()", new ModuleTree(8).modules(), 255);
-        due("line modules()", line4().modules(), 5);
-        due("mixed modules()", mixed7().modules(), 13);
-        due("nested modules()", nested8().modules(), 15);
-    }
-
-    /** Every odd point is joined to all points below it: 0, then 0-1, then 0..2 and so on. */
-    private static ModuleTree nested8() {
-        ModuleTree x = new ModuleTree(8);
-        for (int u = 1; u < 8; u += 2) {
-            for (int v = 0; v < u; v++) {
-                x.join(u, v, true);
-            }
-        }
-        return x;
+        due("line modules()", Graphs.line4().modules(), 5);
+        due("mixed modules()", Graphs.mixed7().modules(), 13);
+        due("nested modules()", Graphs.nested8().modules(), 15);
     }
 
     private static void kind() {
-        ModuleTree x = mixed7();
+        ModuleTree x = Graphs.mixed7();
         due("kind(127)", x.kind(127), ModuleTree.LOOSE);
         due("kind(48)", x.kind(48), ModuleTree.TIGHT);
         due("kind(15)", x.kind(15), ModuleTree.PRIME);
         noneForOthers("kind", x, true);
         due("one kind(1)", new ModuleTree(1).kind(1), ModuleTree.NONE);
-        ModuleTree y = nested8();
+        ModuleTree y = Graphs.nested8();
         for (int u = 1; u < 8; u++) {
             int set = (1 << (u + 1)) - 1;
             due("nested kind(" + set + ")", y.kind(set), u % 2 == 1 ? ModuleTree.TIGHT : ModuleTree.LOOSE);
@@ -262,14 +233,14 @@ public final class PromisesTest {
     }
 
     private static void children() {
-        ModuleTree x = mixed7();
+        ModuleTree x = Graphs.mixed7();
         due("children(127)", x.children(127), 3);
         due("children(48)", x.children(48), 2);
         due("children(15)", x.children(15), 4);
         noneForOthers("children", x, false);
         due("one children(1)", new ModuleTree(1).children(1), ModuleTree.NONE);
         due("eight children(255)", new ModuleTree(8).children(255), 8);
-        ModuleTree y = nested8();
+        ModuleTree y = Graphs.nested8();
         for (int u = 1; u < 8; u++) {
             int set = (1 << (u + 1)) - 1;
             due("nested children(" + set + ")", y.children(set), 2);
@@ -285,7 +256,7 @@ public final class PromisesTest {
     }
 
     private static void parent() {
-        ModuleTree x = mixed7();
+        ModuleTree x = Graphs.mixed7();
         due("parent(1)", x.parent(1), 15);
         due("parent(8)", x.parent(8), 15);
         due("parent(15)", x.parent(15), 127);
@@ -301,7 +272,7 @@ public final class PromisesTest {
         due("two parent(2)", new ModuleTree(2).parent(2), 3);
         due("eight parent(128)", new ModuleTree(8).parent(128), 255);
         due("eight parent(255)", new ModuleTree(8).parent(255), ModuleTree.NONE);
-        ModuleTree y = nested8();
+        ModuleTree y = Graphs.nested8();
         for (int u = 1; u < 8; u++) {
             int set = (1 << u) - 1;
             int wider = (1 << (u + 1)) - 1;
@@ -311,7 +282,7 @@ public final class PromisesTest {
     }
 
     private static void questionsChangeNothing() {
-        ModuleTree x = mixed7();
+        ModuleTree x = Graphs.mixed7();
         for (int time = 0; time < 40; time++) {
             due("again strong()", x.strong(), 10);
             due("again modules()", x.modules(), 13);
