@@ -41,6 +41,13 @@ record Example(String name, int points, int modules, Supplier<ModuleTree> maker,
             {16, NONE, NONE, 31}, {32, NONE, NONE, 63}, {64, NONE, NONE, 127}, {128, NONE, NONE, 255},
             {3, TIGHT, 2, 7}, {7, LOOSE, 2, 15}, {15, TIGHT, 2, 31}, {31, LOOSE, 2, 63},
             {63, TIGHT, 2, 127}, {127, LOOSE, 2, 255}, {255, TIGHT, 2, NONE}}),
+        of("line of four with a twin of its end", 5, 7, () -> Graphs.graph(5, 0, 1, 1, 2, 2, 3, 4, 1), new int[][] {
+            {1, NONE, NONE, 17}, {16, NONE, NONE, 17}, {2, NONE, NONE, 31}, {4, NONE, NONE, 31},
+            {8, NONE, NONE, 31}, {17, LOOSE, 2, 31}, {31, PRIME, 4, NONE}}),
+        of("primes within a prime", 8, 11, () -> Graphs.primes8(), new int[][] {
+            {1, NONE, NONE, 113}, {16, NONE, NONE, 113}, {32, NONE, NONE, 113}, {64, NONE, NONE, 113},
+            {2, NONE, NONE, 255}, {4, NONE, NONE, 255}, {8, NONE, NONE, 136}, {128, NONE, NONE, 136},
+            {113, PRIME, 4, 255}, {136, TIGHT, 2, 255}, {255, PRIME, 4, NONE}}),
         of("eight, none joined", 8, 255, () -> new ModuleTree(8), eightBeneath(LOOSE)),
         of("eight, all joined", 8, 255, () -> Graphs.full(8), eightBeneath(TIGHT)),
         of("line of eight", 8, 9, () -> Graphs.line(8), eightBeneath(PRIME)),

@@ -37,6 +37,9 @@ public final class FaceTest {
         }
         int modifiers = ModuleTree.class.getModifiers();
         checks.due("public final class", modifiers, Modifier.PUBLIC | Modifier.FINAL);
+        checks.due("no package", ModuleTree.class.getPackageName().isEmpty(), true);
+        checks.due("inherits from Object alone", ModuleTree.class.getSuperclass() == Object.class, true);
+        checks.due("interfaces", ModuleTree.class.getInterfaces().length, 0);
         checks.due("nested classes", ModuleTree.class.getDeclaredClasses().length, 0);
         checks.due("LOOSE", ModuleTree.LOOSE, 0);
         checks.due("TIGHT", ModuleTree.TIGHT, 1);

@@ -42,6 +42,11 @@ final class Graphs {
         return x;
     }
 
+    /** The line 0-1-2-3, its end 0 made the line 0-4-5-6 and its end 3 the joined pair 3-7. */
+    static ModuleTree primes8() {
+        return graph(8, 0, 4, 4, 5, 5, 6, 1, 0, 1, 4, 1, 5, 1, 6, 1, 2, 2, 3, 2, 7, 3, 7);
+    }
+
     /** All points joined, by join alone. */
     static ModuleTree full(int points) {
         ModuleTree x = new ModuleTree(points);

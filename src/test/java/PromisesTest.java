@@ -31,6 +31,8 @@ public final class PromisesTest {
         CHECKS.due(call, got, want);
     }
 
+    // Promise 1: "n is points clamped into 1..8; no two points are joined."
+
     private static void newObject() {
         int[] given = {LOW, -1, 0, 1, 2, 3, 4, 5, 6, 7, 8, 9, 31, 32, 33, HIGH};
         int[] points = {1, 1, 1, 1, 2, 3, 4, 5, 6, 7, 8, 8, 8, 8, 8, 8};
@@ -58,6 +60,8 @@ public final class PromisesTest {
         due("apart: x.kind(7)", x.kind(7), ModuleTree.NONE);
     }
 
+    // Promise 2: "Joins two points (true) or parts them."
+
     private static void join() {
         ModuleTree x = new ModuleTree(3);
         due("join(0, 1, true)", x.join(0, 1, true), true);
@@ -77,6 +81,8 @@ public final class PromisesTest {
         due("parted 2-1: kind(6)", tight.kind(6), ModuleTree.LOOSE);
         due("parted 2-1: kind(7)", tight.kind(7), ModuleTree.TIGHT);
     }
+
+    // Promise 2: "u or v outside 0..n-1 or u = v: refused, answers false. Else true."
 
     private static void refusedJoinChangesNothing() {
         int[] wrong = {LOW, -32, -1, 4, 5, 7, 8, 32, 33, HIGH};
@@ -98,6 +104,8 @@ public final class PromisesTest {
         due("refused: join(0, 8, true)", new ModuleTree(8).join(0, 8, true), false);
         due("not refused: join(7, 0, true)", new ModuleTree(8).join(7, 0, true), true);
     }
+
+    // Promise 3: "Turns over which different points are joined."
 
     private static void complement() {
         for (int n = 2; n <= 8; n++) {
@@ -125,6 +133,8 @@ public final class PromisesTest {
         due("join after complement: isStrong(48)", mixed.isStrong(48), false);
     }
 
+    // Promise 4: "Whether a set is a module; false for numbers that are no set of points."
+
     private static void isModule() {
         ModuleTree x = Graphs.line4();
         for (int set = 1; set < 16; set++) {
@@ -144,6 +154,8 @@ public final class PromisesTest {
         due("eight isModule(256)", new ModuleTree(8).isModule(256), false);
     }
 
+    // Promise 5: "Whether a set is a strong module; false for numbers that are no set of points."
+
     private static void isStrong() {
         ModuleTree x = Graphs.mixed7();
         for (int set : new int[] {1, 2, 4, 8, 16, 32, 64, 15, 48, 127}) {
@@ -160,6 +172,9 @@ public final class PromisesTest {
         due("one isStrong(1)", new ModuleTree(1).isStrong(1), true);
         due("three isStrong(3)", new ModuleTree(3).isStrong(3), false);
     }
+
+    // Promise 6: "The smallest module that has both points; BAD if u or v is outside 0..n-1. (For u = v
+    // that point alone.)"
 
     private static void around() {
         ModuleTree x = Graphs.mixed7();
@@ -182,6 +197,8 @@ public final class PromisesTest {
         due("two around(1, 0)", new ModuleTree(2).around(1, 0), 3);
     }
 
+    // Promise 7: "The smallest strong module that has both points; BAD if u or v is outside 0..n-1."
+
     private static void strongAround() {
         ModuleTree x = Graphs.mixed7();
         due("strongAround(0, 3)", x.strongAround(0, 3), 15);
@@ -200,6 +217,8 @@ public final class PromisesTest {
         due("eight strongAround(0, 7)", new ModuleTree(8).strongAround(0, 7), 255);
     }
 
+    // Promise 8: "The number of strong modules."
+
     private static void strong() {
         due("one strong()", new ModuleTree(1).strong(), 1);
         due("two strong()", new ModuleTree(2).strong(), 3);
@@ -209,6 +228,8 @@ public final class PromisesTest {
         due("nested strong()", Graphs.nested8().strong(), 15);
     }
 
+    // Promise 9: "The number of modules."
+
     private static void modules() {
         due("one modules()", new ModuleTree(1).modules(), 1);
         due("two modules()", new ModuleTree(2).modules(), 3);
@@ -217,6 +238,9 @@ public final class PromisesTest {
         due("mixed modules()", Graphs.mixed7().modules(), 13);
         due("nested modules()", Graphs.nested8().modules(), 15);
     }
+
+    // Promise 10: "LOOSE, TIGHT or PRIME for a strong module with two points or more; NONE for every other
+    // number."
 
     private static void kind() {
         ModuleTree x = Graphs.mixed7();
@@ -231,6 +255,9 @@ public final class PromisesTest {
             due("nested kind(" + set + ")", y.kind(set), u % 2 == 1 ? ModuleTree.TIGHT : ModuleTree.LOOSE);
         }
     }
+
+    // Promise 11: "The number of children of a strong module with two points or more; NONE for every other
+    // number."
 
     private static void children() {
         ModuleTree x = Graphs.mixed7();
@@ -254,6 +281,9 @@ public final class PromisesTest {
             due(name + "(" + set + ")", got, ModuleTree.NONE);
         }
     }
+
+    // Promise 12: "The smallest strong module that has the set's points and more points than it; NONE if
+    // the set is not a strong module or has all points."
 
     private static void parent() {
         ModuleTree x = Graphs.mixed7();
