@@ -38,6 +38,20 @@ public final class CallLimitTest {
         new Question("parent(16)", x -> x.parent(16), 48),
         new Question("parent(127)", x -> x.parent(127), ModuleTree.NONE));
 
+    /** What is due for seven points of which no two are joined. */
+    private static final List<Question> QUESTIONS_AT_FIRST = List.of(
+        new Question("join(2, 4, false)", x -> x.join(2, 4, false) ? 1 : 0, 1),
+        new Question("join(-1, 4, true)", x -> x.join(-1, 4, true) ? 1 : 0, 0),
+        new Question("isModule(112)", x -> x.isModule(112) ? 1 : 0, 1),
+        new Question("isStrong(127)", x -> x.isStrong(127) ? 1 : 0, 1),
+        new Question("around(4, 6)", x -> x.around(4, 6), 80),
+        new Question("strongAround(4, 6)", x -> x.strongAround(4, 6), 127),
+        new Question("strong()", x -> x.strong(), 8),
+        new Question("modules()", x -> x.modules(), 127),
+        new Question("kind(127)", x -> x.kind(127), ModuleTree.LOOSE),
+        new Question("children(127)", x -> x.children(127), 7),
+        new Question("parent(16)", x -> x.parent(16), 127));
+
     public static void main(String[] args) {
         for (Question question : QUESTIONS) {
             for (int before = MOST_CALLS - 2; before < MOST_CALLS; before++) {
@@ -143,6 +157,12 @@ public final class CallLimitTest {
             ModuleTree x = Graphs.mixed7();
             for (int call = 5; call <= MOST_CALLS; call++) {
                 answered(question.name() + ", call " + call, question, x);
+            }
+        }
+        for (Question question : QUESTIONS_AT_FIRST) {
+            ModuleTree x = new ModuleTree(7);
+            for (int call = 1; call <= MOST_CALLS; call++) {
+                answered("new object, " + question.name() + ", call " + call, question, x);
             }
         }
     }

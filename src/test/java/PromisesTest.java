@@ -20,6 +20,7 @@ public final class PromisesTest {
         children();
         parent();
         questionsChangeNothing();
+        answersFollowEachChange();
         CHECKS.end();
     }
 
@@ -324,5 +325,36 @@ public final class PromisesTest {
             due("again isModule(112)", x.isModule(112), true);
             due("again isStrong(112)", x.isStrong(112), false);
         }
+    }
+
+    /** One object, asked the same before and after each change. */
+    private static void answersFollowEachChange() {
+        ModuleTree x = new ModuleTree(4);
+        asAfter("new", x, 15, 5, ModuleTree.LOOSE, 4, 15, 5, 15);
+        x.join(0, 1, true);
+        x.join(1, 2, true);
+        x.join(2, 3, true);
+        asAfter("line", x, 5, 5, ModuleTree.PRIME, 4, 15, 15, 15);
+        x.join(3, 0, true);
+        asAfter("ring", x, 7, 7, ModuleTree.TIGHT, 2, 5, 5, 5);
+        x.complement();
+        asAfter("ring turned", x, 7, 7, ModuleTree.LOOSE, 2, 5, 5, 5);
+        x.join(2, 0, false);
+        asAfter("1-3 alone", x, 9, 6, ModuleTree.LOOSE, 3, 15, 5, 15);
+        x.complement();
+        asAfter("1-3 alone, turned", x, 9, 6, ModuleTree.TIGHT, 3, 15, 5, 15);
+    }
+
+    private static void asAfter(String name, ModuleTree x, int... want) {
+        due(name + ": modules()", x.modules(), want[0]);
+        due(name + ": strong()", x.strong(), want[1]);
+        due(name + ": kind(15)", x.kind(15), want[2]);
+        due(name + ": children(15)", x.children(15), want[3]);
+        due(name + ": parent(1)", x.parent(1), want[4]);
+        due(name + ": around(0, 2)", x.around(0, 2), want[5]);
+        due(name + ": strongAround(0, 2)", x.strongAround(0, 2), want[6]);
+        // The points 0 and 2 are the set 5.
+        due(name + ": isModule(5)", x.isModule(5), want[5] == 5);
+        due(name + ": isStrong(5)", x.isStrong(5), want[6] == 5);
     }
 }
